@@ -16,7 +16,7 @@ public final class MoreThanSheHas {
     private static final int ALL_BUT_SIGN = 0x7fffffff;
     private static final int LEAST_BYTE = -0x80;
     private static final int LEAST_SHORT = -0x8000;
-    private static final int LEAST_INT = -0x80000000;
+    private static final int LEAST_INT = 0x80000000;
 
     private static final int NO_SUCH = -1;
     private static final int NO_ROOM = -2;
@@ -841,7 +841,7 @@ public final class MoreThanSheHas {
     private static final class Lines {
         private int people;
         private final int[] knows = new int[PLACES];
-        /** For each set of people the best that was found for it; made anew by each call that uses it. */
+        /** For each set of people the best that was found for it (of nobody 0); made anew by each call that uses it. */
         private final int[] best = new int[1 << PLACES];
 
         void copyFrom(Lines other) {
@@ -1034,7 +1034,6 @@ public final class MoreThanSheHas {
 
         /** The sets whose last one is p follow from those of the people ahead of p. */
         int fewestPews() {
-            best[0] = 0;
             for (int p = 0; p < people; p++) {
                 for (int others = 0; others < 1 << p; others++) {
                     best[others | 1 << p] = pewsWith(p, others);
@@ -1054,7 +1053,6 @@ public final class MoreThanSheHas {
         }
 
         int mostTwos() {
-            best[0] = 0;
             for (int p = 0; p < people; p++) {
                 for (int others = 0; others < 1 << p; others++) {
                     best[others | 1 << p] = twosWith(p, others);

@@ -108,6 +108,13 @@ public final class AskedTest {
     }
 
     private static void fire() {
+        MoreThanSheHas fresh = Check.parish("p00;p00;p00;p00;l01;l02;l13;");
+        Check.due("fire(3) ahead of fire(-1)", fresh.fire(3), 1);
+        Check.due("circle(2)", fresh.circle(2), 2);
+        Check.due("fire(0) behind circle(2)", fresh.fire(0), 2);
+        fresh.line(1, 3);
+        Check.due("fire(0) behind a LINE ended", fresh.fire(0), 1);
+        Check.due("circle(2) behind fire(0)", fresh.circle(2), 2);
         dueFire(new MoreThanSheHas(), 0);
         dueFire(Check.parish("p00;p00;"), 0, -4, -4);
         dueFire(Check.parish("p00;p00;p00;p00;l01;l02;l03;"), 1, 1, 0, -4, -4);

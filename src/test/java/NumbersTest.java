@@ -9,6 +9,7 @@ public final class NumbersTest {
         whatIsRefused();
         whoBegan();
         two();
+        twoWithoutPair();
         storms();
         forged();
         judge();
@@ -44,6 +45,8 @@ public final class NumbersTest {
         dueCould(0, 9, 1, 1, 1, 1, 1, 1, 1, 1);
         dueCould(0, 9, 9);
         dueCould(0, -1, 1);
+        dueCould(0, -2);
+        dueCould(0, -1, -1);
         dueCould(0, 0, 0, 0, -2);
         dueCould(0, 0, 0, 0, 0, 0, 0, 0, 0, 0, 0);
         dueCould(1, 0, 0, 0, 0, 0, 0, 0, 0, 0);
@@ -185,6 +188,26 @@ public final class NumbersTest {
         Check.due("two(2, 3, 31)", x.two(2, 3, 31), -1);
     }
 
+    private static void dueTwo(String people, String lines, int a, int b, int n, int want) {
+        MoreThanSheHas x = Check.parish(people);
+        Check.due(lines, Check.told(x, lines) > 0 ? 1 : 0, 1);
+        Check.due("two(" + a + ", " + b + ", " + n + ") with " + lines, x.two(a, b, n), want);
+    }
+
+    /** Where one would tell just if the other does, and the other just if it does not. */
+    private static void twoWithoutPair() {
+        dueTwo("p20;p10;p40;p20;p40;p00;p10;p62;p00;h4;h1;",
+            "l01;l03;l05;l06;l07;l12;l13;l17;l24;l26;l28;l37;l46;l48;l58;", 4, 1, 3, -4);
+        dueTwo("p00;p40;p64;p10;p10;p00;p40;p00;p40;h3;h0;",
+            "l01;l04;l05;l13;l15;l25;l28;l36;l37;l38;l47;l56;l58;l67;l68;l78;", 3, 0, 3, -4);
+        dueTwo("p50;p10;p20;p64;p20;p50;p30;p20;p64;h1;h8;",
+            "l02;l03;l06;l07;l08;l12;l13;l14;l15;l16;l28;l35;l36;l37;l48;", 1, 8, 3, -4);
+        dueTwo("p10;p20;p64;p61;p50;p20;p00;p00;p10;h7;h4;",
+            "l01;l02;l03;l04;l05;l06;l07;l08;l15;l17;l18;l24;l26;l34;l37;l45;l46;l48;l67;", 7, 4, 2, -4);
+        dueTwo("p50;p30;p20;p40;p50;p10;p20;p00;p10;h5;h4;",
+            "l02;l04;l05;l06;l07;l15;l16;l17;l23;l25;l27;l28;l34;l35;l37;l46;l48;l57;l67;l78;", 5, 4, 4, -4);
+    }
+
     private static void dueStorms(MoreThanSheHas x, int p, int n, int t, long above, long below) {
         String call = "storms(" + p + ", " + n + ", " + t + ")";
         Check.dueFraction(call, x.storms(p, n, t, 0), x.storms(p, n, t, 1), above, below);
@@ -291,6 +314,9 @@ public final class NumbersTest {
         Check.due("years of one", Check.parish("p00;h0;").years(20, -7, 0), 20);
         Check.due("years of one", Check.parish("p00;h0;").years(20, -7, 1), 0);
         Check.due("years(20, 5, 0) of nobody", new MoreThanSheHas().years(20, 5, 0), 0);
+        // with 8 DAYS or 10 it would be another number
+        Check.due("9 DAYS from DAY 0", Check.parish("p10;p10;p10;p10;p10;p10;p10;p10;p10;h0;").years(20, 24, 0), 90);
+        Check.due("9 DAYS from DAY 1", Check.parish("d01;p10;p10;p00;p10;p10;p10;p10;p10;p10;h0;").years(20, 36, 0), 110);
         Check.due("years(0, 1, 0)", x.years(0, 1, 0), -1);
         Check.due("years(21, 1, 0)", x.years(21, 1, 0), -1);
         Check.due("years(-1, 1, 0)", x.years(-1, 1, 0), -1);
