@@ -604,9 +604,9 @@ public final class MoreThanSheHas {
     /** Chances are told in parts, SHARES times as many with each asking. */
     private void askOn() {
         Arrays.fill(nextChance, 0);
-        for (int p = 0; p < now.people(); p++) {
+        for (int p = 0; p < PLACES; p++) {
             int number = now.lines.number(p);
-            for (int q = 0; q < now.people(); q++) {
+            for (int q = 0; q < PLACES; q++) {
                 if (number > 0 && now.lines.between(p, q)) {
                     nextChance[q] += chance[p] * (SHARES / number);
                 }
@@ -1028,15 +1028,21 @@ public final class MoreThanSheHas {
             return answer;
         }
 
-        int bestOf(int bits) {
+        private int bestOf(int bits) {
             return bits >= 0 && bits < best.length ? best[bits] : 0;
+        }
+
+        private void setBest(int bits, int value) {
+            if (bits >= 0 && bits < best.length) {
+                best[bits] = value;
+            }
         }
 
         /** The sets whose last one is p follow from those of the people ahead of p. */
         int fewestPews() {
             for (int p = 0; p < people; p++) {
                 for (int others = 0; others < 1 << p; others++) {
-                    best[others | 1 << p] = pewsWith(p, others);
+                    setBest(others | 1 << p, pewsWith(p, others));
                 }
             }
             return bestOf((1 << people) - 1);
@@ -1055,7 +1061,7 @@ public final class MoreThanSheHas {
         int mostTwos() {
             for (int p = 0; p < people; p++) {
                 for (int others = 0; others < 1 << p; others++) {
-                    best[others | 1 << p] = twosWith(p, others);
+                    setBest(others | 1 << p, twosWith(p, others));
                 }
             }
             return bestOf((1 << people) - 1);
@@ -1146,7 +1152,7 @@ public final class MoreThanSheHas {
         }
 
         boolean has(int p) {
-            return p >= 0 && p < lines.people;
+            return p >= 0 && p < PLACES && p < lines.people;
         }
 
         int kindOf(int p) {
