@@ -3,6 +3,9 @@ final class Check {
     static final long LONG_MINUS_1 = 1000000001L;
     private static int wrong;
     private static int calls;
+    private static int sentences;
+    private static String sentence = "";
+    private static int callsAhead;
 
     private Check() {
     }
@@ -11,13 +14,30 @@ final class Check {
         calls++;
         if (got != want) {
             wrong++;
-            System.out.println(call + " answered " + got + ", due is " + want);
+            System.out.println(sentence + call + " answered " + got + ", due is " + want);
+        }
+    }
+
+    /** The answers that follow, up to the next sentence, are a test of this one of the document. */
+    static void sentence(String words) {
+        untried();
+        sentences++;
+        sentence = "'" + words + "': ";
+        callsAhead = calls;
+    }
+
+    private static void untried() {
+        if (sentences > 0 && calls == callsAhead) {
+            wrong++;
+            System.out.println(sentence + "nothing tries it");
         }
     }
 
     /** Ends the run: with 1 if an answer was not as due. */
     static void end(String test) {
-        System.out.println(test + ": " + calls + " answers, " + wrong + " not as due");
+        untried();
+        String told = sentences > 0 ? sentences + " sentences, " : "";
+        System.out.println(test + ": " + told + calls + " answers, " + wrong + " not as due");
         System.exit(wrong == 0 && calls > 0 ? 0 : 1);
     }
 
@@ -38,6 +58,16 @@ final class Check {
         MoreThanSheHas x = new MoreThanSheHas();
         int statements = text.length() - text.replace(";", "").length();
         due("parish: " + text, told(x, text), statements);
+        return x;
+    }
+
+    /** A parish on the DAY told. */
+    static MoreThanSheHas parishOn(int day, String text) {
+        MoreThanSheHas x = parish(text);
+        for (int left = day - x.count(1); left > 0; left -= 60) {
+            x.days(Math.min(60, left));
+        }
+        due("DAY", x.count(1), day);
         return x;
     }
 
