@@ -327,6 +327,7 @@ public final class NewsEdgesTest {
         dueFire(THREE + "p00;l01;l02;l13;", 2, 2, 3, 0, 1);
         dueFire(THREE + "p00;p00;l03;l13;l23;l24;", 2, 3, -4, 4, 0, 2);
         dueFire(THREE + THREE + "l03;l05;l12;l14;l23;", 3, 5, 4, 3, 2, 1, 0);
+        dueFire(THREE + THREE + "p00;l14;l16;l23;l25;l34;", 3, -4, 6, 5, 4, 3, 2, 1);
         MoreThanSheHas all = KnowEdgesTest.all();
         for (int p = 0; p < 9; p++) {
             Check.due("fire(" + p + ") of all", all.fire(p), p == 8 ? -4 : p ^ 1);

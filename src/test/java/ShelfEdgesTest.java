@@ -192,7 +192,7 @@ public final class ShelfEdgesTest {
                 }
             }
         }
-        Check.sentence("a ROW in place of a KIND, and a KIND in place of a ROW");
+        Check.sentence("SHELVES each hold nothing, a KIND of one, a ROW: one in place of another");
         MoreThanSheHas x = new MoreThanSheHas();
         x.keep(0, 1, 0, 1);
         Check.due("row(0, 0, 0)", x.row(0, 0, 0), 0);
@@ -200,6 +200,16 @@ public final class ShelfEdgesTest {
         Check.due("keep(0, 1, 0, 1)", x.keep(0, 1, 0, 1), 0);
         Check.due("cost(0)", x.cost(0), 1);
         Check.due("could(0)", x.could(0), -12);
+        Check.lay(x, 1, 0, 'p', '0', '0', ';');
+        Check.due("keep(1, 1, 0, 1)", x.keep(1, 1, 0, 1), 0);
+        Check.dueElement(x, 1, 0, 2, 0);
+        Check.due("put(1, 0, 1)", x.put(1, 0, 1), -12);
+        Check.due("parish(1)", x.parish(1), -12);
+        Check.due("copy(1, 0, 1, 0, 1)", x.copy(1, 0, 1, 0, 1), -12);
+        Check.due("keep(1, 0, 0, 0)", x.keep(1, 0, 0, 0), 0);
+        Check.dueElement(x, 1, 0, 2, 0);
+        Check.due("put(1, 0, 1)", x.put(1, 0, 1), -11);
+        Check.due("parish(1)", x.parish(1), -11);
     }
 
     private static void rowAtFirst() {
