@@ -23,6 +23,7 @@ public final class NewsEdgesTest {
         strangers();
         pews();
         fire();
+        inTurn();
         fireAlone();
         fireRefused();
         Check.end("NewsEdgesTest");
@@ -314,6 +315,25 @@ public final class NewsEdgesTest {
         Check.due("all", KnowEdgesTest.all().fire(-1), 4);
         // the first LINE alone would leave one two fewer
         dueFire(THREE + "p00;l01;l02;l13;", 2);
+    }
+
+    private static void inTurn() {
+        Check.sentence("PEWS and FIRE, asked in turn, answer as ever");
+        MoreThanSheHas x = Check.parish(THREE + "p00;p00;p00;l01;l12;l20;");
+        for (int i = 0; i < 3; i++) {
+            Check.due("fire(-1)", x.fire(-1), 1);
+            Check.due("circle(2)", x.circle(2), 3);
+            Check.due("fire(0)", x.fire(0), 1);
+            Check.due("fire(3)", x.fire(3), -4);
+            Check.due("circle(2)", x.circle(2), 3);
+        }
+        x.line(3, 4);
+        Check.due("fire(-1)", x.fire(-1), 2);
+        x.line(0, 1);
+        x.line(0, 2);
+        Check.due("circle(2)", x.circle(2), 2);
+        Check.due("fire(0)", x.fire(0), -4);
+        Check.due("fire(2)", x.fire(2), 1);
     }
 
     private static void fireAlone() {
