@@ -6,7 +6,7 @@ public final class RandomTest {
     private static final int[] LEAST = {Byte.MIN_VALUE, Short.MIN_VALUE, Integer.MIN_VALUE};
 
     private final Random random;
-    private final MoreThanSheHas x = new MoreThanSheHas();
+    private MoreThanSheHas x = new MoreThanSheHas();
     private Plain plain = new Plain();
 
     private RandomTest(int seed) {
@@ -20,6 +20,7 @@ public final class RandomTest {
             test.askPeople();
             test.askAll();
             test.askRows();
+            test.anew();
             test.goOn();
             test.askPeople();
             test.askRows();
@@ -51,6 +52,24 @@ public final class RandomTest {
                 boolean deaf = plain.people.get(a).kind == 7;
                 Check.due("told", x.told(a), deaf ? -3 : 1);
                 plain.people.get(a).heard = !deaf;
+            }
+        }
+    }
+
+    /** An object is good for 512 calls: another one goes on with the same parish, still on DAY 0. */
+    private void anew() {
+        x = new MoreThanSheHas();
+        for (int p = 0; p < plain.size(); p++) {
+            Plain.One one = plain.people.get(p);
+            x.keep(0, 1, one.kind, one.figure);
+            Check.due("comes", x.comes(0), p);
+            for (int q : one.knows) {
+                if (q < p) {
+                    Check.due("line", x.line(p, q), 1);
+                }
+            }
+            if (one.heard) {
+                Check.due("told", x.told(p), 1);
             }
         }
     }
